@@ -33,22 +33,47 @@ public final class AgainstModelTest {
         for (int run = 0; run < RUNS; run++) {
             ThreeStrandMaps program = new ThreeStrandMaps();
             Model model = new Model();
-            int call = 0;
+            int call = run % 4 < 2 ? 0 : spoil(due, program, model, run % 4 == 2);
             while (call < CALLS) {
-                call += makeCall(due, "run " + run, program, model, run);
+                makeCall(due, "run " + run, program, model, run);
+                call++;
             }
         }
         due.end();
     }
 
-    private static int makeCall(Due due, String run, ThreeStrandMaps program, Model model, int style)
+    /** Puts other images on all pairs of the maps at places 0 and 1; answers with the number of calls. */
+    private static int spoil(Due due, ThreeStrandMaps program, Model model, boolean bijective) {
+        int calls = 0;
+        for (int place = 0; place < 2; place++) {
+            int n = 2 + below(5);
+            List<Integer> images = new ArrayList<>();
+            for (int i = 0; i < n * n; i++) {
+                images.add(bijective ? i : below(n * n));
+            }
+            due.is("flip", program.flip(place, n), model.flip(place, n));
+            for (int i = 0; i < n * n; i++) {
+                int image = images.remove(below(images.size()));
+                due.is("put", program.put(place, i / n, i % n, image / n, image % n),
+                    model.put(place, i / n, i % n, image / n, image % n));
+            }
+            calls += 1 + n * n;
+        }
+        return calls;
+    }
+
+    private static void makeCall(Due due, String run, ThreeStrandMaps program, Model model, int style)
             throws ReflectiveOperationException {
         String[] method = METHODS[below(METHODS.length)].split(" ");
         // In some runs few calls spoil the maps, so that long histories of sound maps come about.
         if (style % 3 == 0 && (method[0].equals("put") || method[0].equals("drop")) && below(10) > 0) {
-            return 1;
+            return;
         }
-        int points = 1 + below(6);
+        // Retractions soon leave nothing but single points.
+        if (method[0].equals("retract") && below(3) > 0) {
+            return;
+        }
+        int points = below(2) == 0 ? 1 + below(6) : 3 + below(4);
         int place = below(4);
         if (below(3) > 0 && model.whole(place, 0) > 0) {
             points = model.whole(place, 0);
@@ -69,7 +94,6 @@ public final class AgainstModelTest {
         }
         String text = run + ": " + method[0] + Arrays.toString(values);
         due.is(text, answer(program, method[0], values), answer(model, method[0], values));
-        return 1;
     }
 
     private static int value(char kind, int points, int letters) {

@@ -1,6 +1,6 @@
 import java.util.List;
 
-/** Promises 31 and 32: finds the lists anew and compares them with those that the program has written out. */
+/** Promises 16 (property 14), 31 and 32: finds the lists anew and compares them with those that the program has written out. */
 public final class SolutionListTest {
     public static void main(String[] args) {
         Due due = new Due();
@@ -29,6 +29,13 @@ public final class SolutionListTest {
         due.is("solution", maps.whole(0, 1), 1);
         due.is("involutive", maps.whole(0, 4), 1);
         due.is("left nondegenerate", maps.whole(0, 5), 1);
-        due.is("index", maps.whole(0, 14), i);
+        for (int[] f : Model.permutations(n)) {
+            int code = 0;
+            for (int x = 0; x < n; x++) {
+                code |= f[x] << 3 * x;
+            }
+            due.is("rename", maps.rename(0, code, 1), n);
+            due.is("index of map " + i + " on " + n + " points, renamed by " + code, maps.whole(1, 14), i);
+        }
     }
 }
