@@ -742,7 +742,7 @@ public final class ThreeStrandMaps {
         }
 
         static boolean isUnit(int n, int number) {
-            for (int d = 2; d <= n; d++) {
+            for (int d = 2; d < n; d++) {
                 if (n % d == 0 && number % d == 0) {
                     return false;
                 }
@@ -1185,9 +1185,11 @@ public final class ThreeStrandMaps {
         private boolean isIsomorphism(PairMap first, PairMap second) {
             int n = first.points();
             for (int x = 0; x < n; x++) {
+                int newX = imageOf(x);
                 for (int y = 0; y < n; y++) {
-                    int image = second.imageOf(Codes.pairOf(imageOf(x), imageOf(y)));
-                    if (image != Codes.pairOf(imageOf(first.left(x, y)), imageOf(first.right(x, y)))) {
+                    int pair = first.imageOf(Codes.pairOf(x, y));
+                    int newPair = Codes.pairOf(imageOf(pair >> 3), imageOf(pair));
+                    if (second.imageOf(Codes.pairOf(newX, imageOf(y))) != newPair) {
                         return false;
                     }
                 }
@@ -1348,12 +1350,13 @@ public final class ThreeStrandMaps {
         }
     }
 
-    /** A sequence of letters. */
+    /** A sequence of letters; each one is kept as the first position at which it acts, and whether it is a capital. */
     private static final class Braid {
         private static final int MOST_LETTERS = 24;
         private static final int POSITIONS = 3;
 
-        private final int[] letters = new int[MOST_LETTERS];
+        private final int[] positions = new int[MOST_LETTERS];
+        private final boolean[] capitals = new boolean[MOST_LETTERS];
         private int length = 0;
 
         static boolean isLetter(int letter) {
@@ -1364,17 +1367,20 @@ public final class ThreeStrandMaps {
             return letter >= 'A' && letter < 'A' + POSITIONS;
         }
 
-        /** The first of the two positions at which a letter acts. */
-        static int position(int letter) {
-            return isCapital(letter) ? letter - 'A' : letter - 'a';
-        }
-
         int length() {
             return length;
         }
 
-        int letter(int index) {
-            return index >= 0 && index < length && index < MOST_LETTERS ? letters[index] : 'a';
+        int position(int index) {
+            return hasIndex(index) ? positions[index] : 0;
+        }
+
+        boolean isCapitalAt(int index) {
+            return hasIndex(index) && capitals[index];
+        }
+
+        private static boolean hasIndex(int index) {
+            return index >= 0 && index < MOST_LETTERS;
         }
 
         boolean isFull() {
@@ -1382,8 +1388,10 @@ public final class ThreeStrandMaps {
         }
 
         void append(int letter) {
-            if (length >= 0 && length < MOST_LETTERS) {
-                letters[length] = letter;
+            if (hasIndex(length)) {
+                boolean capital = isCapital(letter);
+                positions[length] = letter - (capital ? 'A' : 'a');
+                capitals[length] = capital;
                 length++;
             }
         }
@@ -1394,17 +1402,18 @@ public final class ThreeStrandMaps {
 
         boolean hasCapital() {
             for (int i = 0; i < length; i++) {
-                if (isCapital(letter(i))) {
+                if (isCapitalAt(i)) {
                     return true;
                 }
             }
             return false;
         }
 
+        /** How many points a tuple must have for all letters to act on it. */
         int strands() {
             int strands = 0;
             for (int i = 0; i < length; i++) {
-                strands = Math.max(strands, position(letter(i)) + 2);
+                strands = Math.max(strands, position(i) + 2);
             }
             return strands;
         }
@@ -1434,9 +1443,8 @@ public final class ThreeStrandMaps {
         int resultOf(Braid braid, int strands, int tuple) {
             int result = tuple;
             for (int i = 0; i < braid.length(); i++) {
-                int letter = braid.letter(i);
-                int shift = 3 * (strands - 2 - Braid.position(letter));
-                result = Braid.isCapital(letter) ? inverse.appliedAt(result, shift) : map.appliedAt(result, shift);
+                int shift = 3 * (strands - 2 - braid.position(i));
+                result = (braid.isCapitalAt(i) ? inverse : map).appliedAt(result, shift);
             }
             return result;
         }

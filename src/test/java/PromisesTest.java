@@ -494,6 +494,14 @@ public final class PromisesTest {
             maps.put(0, 3, y, y < 2 ? 1 - y : y, 3);
         }
         due(maps.whole(0, 10), 720);
+        // One row that is no identity, the first or the last one.
+        for (int x = 0; x < 6; x += 5) {
+            maps.flip(0, 6);
+            for (int y = 0; y < 6; y++) {
+                maps.put(0, x, y, (y + 1) % 6, x);
+            }
+            due(maps.whole(0, 10), 6);
+        }
     }
 
     /** Makes the involutive map with these L, each row a permutation. */
@@ -552,6 +560,14 @@ public final class PromisesTest {
         due(maps.whole(0, 12), 36);
         fillCycles(0, 6, 1);
         due(maps.whole(0, 12), 1);
+        // A cycle of pairs x, 0 and one of pairs 0, y.
+        maps.put(0, 1, 0, 2, 0);
+        maps.put(0, 2, 0, 3, 0);
+        maps.put(0, 3, 0, 1, 0);
+        due(maps.whole(0, 12), 3);
+        maps.put(0, 0, 4, 0, 5);
+        maps.put(0, 0, 5, 0, 4);
+        due(maps.whole(0, 12), 6);
     }
 
     private static void wholeErrors() {
@@ -912,6 +928,13 @@ public final class PromisesTest {
         due(maps.rounds(0, 0, 4), 60);
         fillCycles(0, 4, 7, 9);
         due(maps.rounds(0, 0, 2), NONE);
+        // One cycle of 60 tuples, or of 63: the two halves of a tuple turn by themselves.
+        writeAll(0, "ac");
+        fillCycles(0, 5, 20, 3);
+        due(maps.rounds(0, 0, 4), 60);
+        fillCycles(0, 4, 9, 7);
+        due(maps.rounds(0, 0, 4), NONE);
+        writeAll(0, "a");
         fillCycles(0, 6, 29, 2, 2);
         due(maps.rounds(0, 0, 2), 58);
         fillCycles(0, 6, 31, 2);
