@@ -785,7 +785,7 @@ public final class ThreeStrandMaps {
         static int braceNumber(int n) {
             int found = 0;
             int u = allOnes(n);
-            for (int tried = 0; tried < candidates(n); tried++) {
+            for (int left = candidates(n); left > 0; left--) {
                 found += oneIf(isBrace(n, u));
                 u = nextUnits(n, u);
             }
@@ -795,7 +795,7 @@ public final class ThreeStrandMaps {
         static int braceAt(int n, int index) {
             int before = index;
             int u = allOnes(n);
-            for (int tried = 0; tried < candidates(n); tried++) {
+            for (int left = candidates(n); left > 0; left--) {
                 if (isBrace(n, u)) {
                     if (before == 0) {
                         return u;
@@ -975,7 +975,7 @@ public final class ThreeStrandMaps {
 
         static int orbitOf(PairMap map, int x) {
             int orbit = 1 << x;
-            // Each pass but the last one adds a point.
+            // Each pass adds a point until none is missing.
             for (int pass = 0; pass < map.points(); pass++) {
                 orbit = withLinked(map, orbit);
             }
@@ -1010,7 +1010,7 @@ public final class ThreeStrandMaps {
 
         static int closureOf(PairMap map, int set) {
             int result = set;
-            // Each pass but the last one adds a point.
+            // Each pass adds a point until none is missing.
             for (int pass = 0; pass < map.points(); pass++) {
                 result = withImages(map, result);
             }
