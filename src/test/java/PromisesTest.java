@@ -1,65 +1,5 @@
 /** The promises one by one: ordinary calls, the edges that the document names, and wrong arguments. */
-public final class PromisesTest {
-    private static final int NONE = -1, UNKNOWN = -1000001, OUTSIDE = -1000002, NOT = -1000003, FULL = -1000004;
-    private static final int LOW = Integer.MIN_VALUE, HIGH = Integer.MAX_VALUE;
-
-    private static final Due DUE = new Due();
-
-    private static ThreeStrandMaps maps = new ThreeStrandMaps();
-
-    private static void due(int got, int want) {
-        DUE.is(got, want);
-    }
-
-    /** The code of some numbers. */
-    private static int code(int... numbers) {
-        int code = 0;
-        for (int i = 0; i < numbers.length; i++) {
-            code |= numbers[i] << 3 * i;
-        }
-        return code;
-    }
-
-    private static void cells(int map, int x, int y, int left, int right) {
-        DUE.is("L(" + x + ", " + y + ") at " + map, maps.cell(map, x, y, 0), left);
-        DUE.is("R(" + x + ", " + y + ") at " + map, maps.cell(map, x, y, 1), right);
-    }
-
-    /** Fills the map at a place: row x of the texts has L(x, y) and R(x, y) for each y, "01" for 0 and 1. */
-    private static void fill(int map, String... rows) {
-        maps.flip(map, rows.length);
-        for (int x = 0; x < rows.length; x++) {
-            String[] cells = rows[x].split(" ");
-            for (int y = 0; y < rows.length; y++) {
-                maps.put(map, x, y, cells[y].charAt(0) - '0', cells[y].charAt(1) - '0');
-            }
-        }
-    }
-
-    /** Fills the map at a place so that r turns the pairs, in lexicographic order, in cycles of these lengths. */
-    private static void fillCycles(int map, int n, int... lengths) {
-        maps.flip(map, n);
-        for (int pair = 0; pair < n * n; pair++) {
-            maps.put(map, pair / n, pair % n, pair / n, pair % n);
-        }
-        int start = 0;
-        for (int length : lengths) {
-            for (int i = 0; i < length; i++) {
-                int pair = start + i;
-                int image = start + (i + 1) % length;
-                maps.put(map, pair / n, pair % n, image / n, image % n);
-            }
-            start += length;
-        }
-    }
-
-    private static void writeAll(int braid, String letters) {
-        maps.erase(braid);
-        for (char letter : letters.toCharArray()) {
-            maps.write(braid, letter);
-        }
-    }
-
+public final class PromisesTest extends Workbench {
     public static void main(String[] args) {
         Runnable[] promises = {
             PromisesTest::newObject, PromisesTest::flip, PromisesTest::twist, PromisesTest::group, PromisesTest::brace,
@@ -828,8 +768,8 @@ public final class PromisesTest {
 
     // Promise 26
     private static void erase() {
-        writeAll(0, "abc");
-        writeAll(1, "AB");
+        letters(0, "abc");
+        letters(1, "AB");
         due(maps.erase(0), 3);
         due(maps.erase(0), 0);
         due(maps.count(3), 2);
@@ -838,7 +778,7 @@ public final class PromisesTest {
         due(maps.erase(-1), UNKNOWN);
         due(maps.erase(2), UNKNOWN);
         due(maps.erase(LOW), UNKNOWN);
-        writeAll(0, "aaaaaaaaaaaaaaaaaaaaaaaa");
+        letters(0, "aaaaaaaaaaaaaaaaaaaaaaaa");
         due(maps.erase(0), 24);
         due(maps.write(0, 'a'), 1);
     }
@@ -847,21 +787,21 @@ public final class PromisesTest {
     private static void through() {
         maps.twist(0, 3, code(1, 2, 0), code(1, 0, 2));
         due(maps.through(0, 0, 2, code(2, 1)), code(2, 1));
-        writeAll(0, "a");
+        letters(0, "a");
         due(maps.through(0, 0, 2, code(2, 1)), code(2, 2));
         due(maps.through(0, 0, 4, code(2, 1, 0, 1)), code(2, 2, 0, 1));
-        writeAll(0, "b");
+        letters(0, "b");
         due(maps.through(0, 0, 3, code(0, 2, 1)), code(0, 2, 2));
         due(maps.through(0, 0, 2, code(2, 1)), NOT);
-        writeAll(0, "c");
+        letters(0, "c");
         due(maps.through(0, 0, 4, code(0, 0, 2, 1)), code(0, 0, 2, 2));
         due(maps.through(0, 0, 3, code(2, 1, 0)), NOT);
-        writeAll(0, "A");
+        letters(0, "A");
         due(maps.through(0, 0, 2, code(2, 2)), code(2, 1));
-        writeAll(0, "abCcBA");
+        letters(0, "abCcBA");
         due(maps.through(0, 0, 4, code(0, 1, 2, 0)), code(0, 1, 2, 0));
         // a: 2 1 0 to 2 2 0; then b: 2 0 to f(0) g(2) = 1 2.
-        writeAll(0, "ab");
+        letters(0, "ab");
         due(maps.through(0, 0, 3, code(2, 1, 0)), code(2, 1, 2));
         due(maps.through(0, 0, 1, 0), OUTSIDE);
         due(maps.through(0, 0, 5, 0), OUTSIDE);
@@ -876,7 +816,7 @@ public final class PromisesTest {
         due(maps.through(4, 0, 2, 0), UNKNOWN);
         maps.put(0, 0, 0, 2, 2);
         due(maps.through(0, 0, 3, 0), code(2, 1, 2));
-        writeAll(0, "aA");
+        letters(0, "aA");
         due(maps.through(0, 0, 3, 0), NOT);
     }
 
@@ -885,16 +825,16 @@ public final class PromisesTest {
         maps.flip(0, 3);
         due(maps.stays(0, 0, 2), 9);
         due(maps.stays(0, 0, 4), 81);
-        writeAll(0, "a");
+        letters(0, "a");
         due(maps.stays(0, 0, 2), 3);
         due(maps.stays(0, 0, 3), 9);
-        writeAll(0, "ab");
+        letters(0, "ab");
         due(maps.stays(0, 0, 3), 3);
         due(maps.stays(0, 0, 2), NOT);
-        writeAll(1, "abc");
+        letters(1, "abc");
         due(maps.stays(0, 1, 4), 3);
         due(maps.stays(0, 1, 3), NOT);
-        writeAll(1, "aBAb");
+        letters(1, "aBAb");
         due(maps.stays(0, 1, 3), 3);
         due(maps.stays(0, 0, 1), OUTSIDE);
         due(maps.stays(0, 0, 5), OUTSIDE);
@@ -905,7 +845,7 @@ public final class PromisesTest {
         due(maps.stays(0, -1, 2), UNKNOWN);
         maps.put(0, 0, 0, 1, 1);
         due(maps.stays(0, 1, 3), NOT);
-        writeAll(1, "a");
+        letters(1, "a");
         due(maps.stays(0, 1, 2), 2);
         maps.flip(0, 6);
         due(maps.stays(0, 0, 4), 36);
@@ -915,31 +855,31 @@ public final class PromisesTest {
     private static void rounds() {
         maps.flip(0, 4);
         due(maps.rounds(0, 0, 4), 1);
-        writeAll(0, "a");
+        letters(0, "a");
         due(maps.rounds(0, 0, 2), 2);
-        writeAll(0, "ab");
+        letters(0, "ab");
         due(maps.rounds(0, 0, 3), 3);
-        writeAll(0, "abc");
+        letters(0, "abc");
         due(maps.rounds(0, 0, 4), 4);
         due(maps.rounds(0, 0, 3), NOT);
-        writeAll(0, "a");
+        letters(0, "a");
         fillCycles(0, 4, 3, 4, 5);
         due(maps.rounds(0, 0, 2), 60);
         due(maps.rounds(0, 0, 4), 60);
         fillCycles(0, 4, 7, 9);
         due(maps.rounds(0, 0, 2), NONE);
         // One cycle of 60 tuples, or of 63: the two halves of a tuple turn by themselves.
-        writeAll(0, "ac");
+        letters(0, "ac");
         fillCycles(0, 5, 20, 3);
         due(maps.rounds(0, 0, 4), 60);
         fillCycles(0, 4, 9, 7);
         due(maps.rounds(0, 0, 4), NONE);
-        writeAll(0, "a");
+        letters(0, "a");
         fillCycles(0, 6, 29, 2, 2);
         due(maps.rounds(0, 0, 2), 58);
         fillCycles(0, 6, 31, 2);
         due(maps.rounds(0, 0, 2), NONE);
-        writeAll(0, "A");
+        letters(0, "A");
         fillCycles(0, 6, 36);
         due(maps.rounds(0, 0, 2), 36);
         due(maps.rounds(0, 0, 1), OUTSIDE);
@@ -951,7 +891,7 @@ public final class PromisesTest {
         due(maps.rounds(0, -1, 2), UNKNOWN);
         fill(0, "00 00", "10 11");
         due(maps.rounds(0, 0, 2), NOT);
-        writeAll(0, "a");
+        letters(0, "a");
         due(maps.rounds(0, 0, 2), NONE);
     }
 
@@ -959,8 +899,8 @@ public final class PromisesTest {
     private static void part() {
         maps.flip(0, 3);
         due(maps.part(0, 2), NONE);
-        writeAll(0, "aba");
-        writeAll(1, "bab");
+        letters(0, "aba");
+        letters(1, "bab");
         due(maps.part(0, 3), NONE);
         due(maps.part(0, 4), NONE);
         due(maps.part(0, 2), NOT);
@@ -970,12 +910,12 @@ public final class PromisesTest {
         due(maps.part(0, 3), code(1, 1, 1));
         due(maps.part(0, 4), code(1, 1, 1, 0));
         maps.flip(0, 3);
-        writeAll(0, "ab");
-        writeAll(1, "");
+        letters(0, "ab");
+        letters(1, "");
         due(maps.part(0, 3), code(0, 0, 1));
         due(maps.part(0, 2), NOT);
-        writeAll(0, "");
-        writeAll(1, "b");
+        letters(0, "");
+        letters(1, "b");
         due(maps.part(0, 2), NOT);
         due(maps.part(0, 3), code(0, 0, 1));
         due(maps.part(0, 1), OUTSIDE);
@@ -985,10 +925,10 @@ public final class PromisesTest {
         due(maps.part(-1, 2), UNKNOWN);
         due(maps.part(4, 2), UNKNOWN);
         maps.put(0, 0, 0, 1, 1);
-        writeAll(1, "A");
+        letters(1, "A");
         due(maps.part(0, 2), NOT);
-        writeAll(0, "A");
-        writeAll(1, "");
+        letters(0, "A");
+        letters(1, "");
         due(maps.part(0, 2), NOT);
     }
 
@@ -1045,8 +985,8 @@ public final class PromisesTest {
         maps.drop(3);
         due(maps.count(0), 1);
         due(maps.count(1), 1);
-        writeAll(0, "abc");
-        writeAll(1, "A");
+        letters(0, "abc");
+        letters(1, "A");
         due(maps.count(2), 3);
         due(maps.count(3), 1);
         due(maps.count(4), OUTSIDE);
