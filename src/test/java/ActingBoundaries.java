@@ -393,6 +393,7 @@ final class ActingBoundaries extends Sentences {
         fill(0, "32 01 30 12", "02 00 10 03", "21 33 22 23", "20 13 31 11");
         letters(0, "bab");
         due(maps.rounds(0, 0, 3), NONE);
+        allTuples();
         says("map: the place of the map");
         maps.flip(0, 2);
         fillCycles(3, 2, 3);
@@ -461,6 +462,46 @@ final class ActingBoundaries extends Sentences {
             }
         }
         roundsErrors();
+    }
+
+    private static void allTuples() {
+        says("so that all tuples are as they were at the beginning.");
+        // Two pairs alone change places, and later come back.
+        for (int first = 0; first < 9; first++) {
+            for (int second = 0; second < first; second++) {
+                fillMoves(first, second);
+                due(maps.rounds(0, 0, 2), 2);
+                due(maps.rounds(0, 0, 3), 2);
+                due(maps.rounds(0, 0, 4), 2);
+                letters(0, "c");
+                due(maps.rounds(0, 0, 4), 2);
+            }
+        }
+        // Three pairs come back after three times, two others after two times.
+        for (int step : new int[] {1, 2, 4, 5, 7, 8}) {
+            for (int start = 0; start < 9; start++) {
+                int[] pairs = new int[5];
+                for (int i = 0; i < 5; i++) {
+                    pairs[i] = (start + i * step) % 9;
+                }
+                fillMoves(pairs);
+                for (int s = 2; s <= 4; s++) {
+                    due(maps.rounds(0, 0, s), 6);
+                }
+            }
+        }
+    }
+
+    /** The map with three points that turns the last two of these pairs, and those before them, each in a cycle. */
+    private static void fillMoves(int... pairs) {
+        maps = new ThreeStrandMaps();
+        fillCycles(0, 3, 1);
+        int last = pairs.length - 2;
+        for (int i = 0; i < pairs.length; i++) {
+            int next = i < last ? (i + 1) % last : last + (i + 1 - last) % 2;
+            maps.put(0, pairs[i] / 3, pairs[i] % 3, pairs[next] / 3, pairs[next] % 3);
+        }
+        letters(0, "a");
     }
 
     private static void roundsErrors() {

@@ -266,7 +266,10 @@ final class AskingBoundaries extends Sentences {
         says("14: the index of the map of the list for n points to which it is isomorphic, NONE if there is none, or n is "
             + "greater than 4");
         int[] sizes = {1, 2, 5, 23};
-        for (int n = 1; n <= 4; n++) {
+        // A map with more points was there before.
+        fillCycles(0, 6, 35);
+        maps.mirror(0, 0);
+        for (int n = 4; n >= 1; n--) {
             for (int i = 0; i < sizes[n - 1]; i++) {
                 maps.take(n, i, 0);
                 due(maps.whole(0, 14), i);

@@ -805,6 +805,7 @@ final class DescriptionBoundaries extends Sentences {
         for (int f = 0; f < permutations; f++) {
             due(maps.rename(0, maps.like(2, 2, f), 1), n);
             due(sequence(1, n) >= smallest ? 1 : 0, 1);
+            due(maps.whole(1, 14), i);
         }
     }
 

@@ -474,6 +474,17 @@ final class MakingBoundaries extends Sentences {
             due(maps.pair(0, 1, 2), n * (6 / n));
             due(maps.pair(1, 0, 2), n * (6 / n));
         }
+        says("Returns the number of its points");
+        // One point more or less in a component changes nothing else.
+        fillCycles(0, 6, 36);
+        maps.flip(1, 1);
+        due(maps.pair(0, 1, 2), 6);
+        due(maps.like(0, 2, 0), identity(6));
+        due(maps.pair(1, 0, 2), 6);
+        due(maps.like(0, 2, 0), identity(6));
+        for (int n = 2; n <= 3; n++) {
+            productIsFull(n, 6 / n);
+        }
         says("UNKNOWN if there is no such map or place");
         maps.flip(0, 6);
         maps.flip(1, 2);
@@ -500,6 +511,22 @@ final class MakingBoundaries extends Sentences {
         maps.flip(0, 6);
         due(maps.pair(0, 0, 2), FULL);
         due(maps.whole(2, 0), UNKNOWN);
+    }
+
+    /** A product with six points, all of its 36 pairs. */
+    private static void productIsFull(int n, int m) {
+        maps = new ThreeStrandMaps();
+        fillCycles(0, n, n * n);
+        fillCycles(1, m, m * m);
+        due(maps.pair(0, 1, 2), 6);
+        for (int pair = 0; pair < 36; pair++) {
+            int x = pair / 6;
+            int y = pair % 6;
+            // Each component goes on to the pair that follows in its own cycle.
+            int first = (x / m * n + y / m + 1) % (n * n);
+            int second = (x % m * m + y % m + 1) % (m * m);
+            cells(2, x, y, first / n * m + second / m, first % n * m + second % m);
+        }
     }
 
     private static void invert() {
