@@ -1161,8 +1161,8 @@ public final class ThreeStrandMaps {
         /** The smallest sequence of the L of a renamed map, four bits a number; there are up to four points. */
         long smallestRows(PairMap map) {
             int n = map.points();
-            long smallest = Long.MAX_VALUE;
             start();
+            long smallest = renamedRows(map);
             for (int left = permutations(n); left > 0; left--) {
                 smallest = Math.min(smallest, renamedRows(map));
                 step(n);
@@ -1290,7 +1290,7 @@ public final class ThreeStrandMaps {
             int known = element & FIVE_DIGITS;
             int index = (known >> 6) & SEEN_MASK;
             long bit = 1L << known;
-            if ((seen[index] & bit) == 0L && size < MOST_ELEMENTS) {
+            if ((seen[index] & bit) == 0L && size >= 0 && size < MOST_ELEMENTS) {
                 seen[index] |= bit;
                 elements[size] = element;
                 size++;
@@ -1328,9 +1328,9 @@ public final class ThreeStrandMaps {
 
         int smallest(int word) {
             int result = word & MASK;
-            for (int step = 0; step < MASK && smaller[result] != result; step++) {
+            for (int step = 0; step < MASK && smallerOf(result) != result; step++) {
                 // Shortens the way for the words that come later.
-                smaller[result] = smallerOf(smallerOf(result));
+                smaller[result & MASK] = smallerOf(smallerOf(result));
                 result = smallerOf(result);
             }
             return result;
